@@ -148,6 +148,13 @@ public final class YearsTest {
         x.year(2);
         boxes("no mass", x, 0, 0, 0, 12345, 0, 54321, 0, 0);
         sums("no mass", x, 0, 0, 0, 0, 0, 0, 0, 2, 0);
+        HotGround y = new HotGround();
+        y.well(0, 1, 20, 20, 20, 20, 20);
+        y.open(0, true);
+        y.fill(1, 1, 77);
+        y.year(1);
+        sums("a mass of 1 takes all the heat", y, 1, 77, 0, 0, 0, 0, 0, 1, 0);
+        boxes("a mass of 1 takes all the heat", y, 0, 0, 0, 0, 0, 0, 0, 0);
     }
 
     private static void aPartIsGivenBack() {
