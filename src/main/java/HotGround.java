@@ -549,7 +549,8 @@ public final class HotGround {
                 boolean forth = mass[i] >= mass[i + 1];
                 int from = forth ? i : i + 1;
                 int to = forth ? i + 1 : i;
-                long part = (mass[from] - mass[to]) / leak[i];
+                // no leak is told below 2; yet a divisor is looked at where it divides
+                long part = leak[i] <= 0 ? 0 : (mass[from] - mass[to]) / leak[i];
                 long warmth = heatOf(from, part);
                 pour(from, -part, -warmth);
                 pour(to, part, warmth);
