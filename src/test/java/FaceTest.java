@@ -31,6 +31,8 @@ public final class FaceTest {
         classesInside();
         String text = Files.readString(Path.of("src/main/java/HotGround.java"));
         words(text);
+        groups(text);
+        lengths(text);
         loops(text);
         Check.end();
     }
@@ -116,8 +118,44 @@ public final class FaceTest {
             boolean found = Pattern.compile(edge + Pattern.quote(word) + edge).matcher(code).find();
             Check.due("the word " + word + " stands there", found ? 1 : 0, 0);
         }
+        Set<String> asked = new TreeSet<>();
+        Matcher library = Pattern.compile("\\b[A-Z]\\w*[a-z]\\w*\\.\\w+\\(").matcher(code);
+        while (library.find()) {
+            asked.add(library.group());
+        }
+        Check.same("asked of the library", asked.toString(), "[Math.max(, Math.min(]");
         boolean plain = text.chars().allMatch(c -> c == '\n' || c >= 32 && c < 127);
         Check.due("plain signs alone", plain ? 1 : 0, 1);
+    }
+
+    /** Ahead of the calls the interface says what they are about: each group of calls stands below its line. */
+    private static void groups(String text) {
+        String[][] groups = {
+            {"// ---- wells, the plant", "well", "open", "clean", "flow", "about", "turbine", "on", "at", "point"},
+            {"// ---- boxes, years", "fill", "set", "year", "box", "sum"},
+            {"// ---- what comes back", "share", "put", "back", "cut"},
+            {"// ---- the plan", "candidate", "promise", "plan", "lacks", "count", "trace"}};
+        int before = 0;
+        for (String[] group : groups) {
+            for (int i = 0; i < group.length; i++) {
+                int at = i == 0 ? text.indexOf(group[0]) : text.indexOf(" " + group[i] + "(", before);
+                Check.due(group[i] + " stands in its place", at > before ? 1 : 0, 1);
+                before = Math.max(before, at);
+            }
+        }
+    }
+
+    /** Rule 11: some sixty lines a method. A method of the class starts 4 from the edge, one inside another class 8. */
+    private static void lengths(String text) {
+        Matcher body = Pattern.compile("\n( {4}| {8})(?! |private static final class)[^\n]*\\) \\{\n(.*?)\n\\1\\}\n",
+                Pattern.DOTALL).matcher(text);
+        int found = 0;
+        while (body.find()) {
+            found++;
+            long lines = body.group(2).lines().count();
+            Check.due("lines of a method:" + body.group(2).lines().findFirst().orElse(""), lines <= 60 ? 1 : 0, 1);
+        }
+        Check.due("methods are seen", found >= METHODS.length ? 1 : 0, 1);
     }
 
     /** Objects and arrays are made where fields are: no call makes one. */
